@@ -17,6 +17,9 @@ public final class ModelTest {
         for (int run = 0; run < RUNS; run++) {
             new Run(new Random(run)).go();
         }
+        for (int slots = 1; slots <= 6; slots++) {
+            new Crowd(slots).compare();
+        }
         Random luck = new Random(77);
         for (int i = 0; i < FAULT_TEXTS; i++) {
             compareFaults(luck);
@@ -106,9 +109,19 @@ final class Run {
         ModelTest.due(story.toString(), got, want);
     }
 
+    /** A number from least to most, now and then one a little outside, or far. */
     private int near(int least, int most) {
-        return luck.nextInt(12) == 0 ? least - 1 - luck.nextInt(3) + luck.nextInt(2) * (most - least + 4)
-                : least + luck.nextInt(most - least + 1);
+        int[] far = {Integer.MIN_VALUE, Integer.MIN_VALUE + 1, -100, 100, 1 << 30, Integer.MAX_VALUE - 1, Integer.MAX_VALUE};
+        switch (luck.nextInt(36)) {
+            case 0:
+                return far[luck.nextInt(far.length)];
+            case 1:
+                return least - 1 - luck.nextInt(3);
+            case 2:
+                return most + 1 + luck.nextInt(3);
+            default:
+                return least + luck.nextInt(most - least + 1);
+        }
     }
 
     private int anySegment() {
@@ -122,12 +135,14 @@ final class Run {
     private void act() {
         int s = anySegment();
         int n = luck.nextInt(9);
+        List<Integer> in = new ArrayList<>(model.state.versions.get(model.state.versions.size() - 1).in);
+        int likely = in.isEmpty() || luck.nextInt(3) == 0 ? s : in.get(luck.nextInt(in.size()));
         switch (luck.nextInt(16)) {
             case 0: case 1: case 2: case 3:
                 due("sweep()", map.sweep(), model.sweep());
                 break;
             case 4: case 5: case 6:
-                due("cut(" + s + ")", map.cut(s), model.cut(s));
+                due("cut(" + likely + ")", map.cut(likely), model.cut(likely));
                 break;
             case 7: case 8: case 9: case 10:
                 due("raise(" + s + ")", map.raise(s), model.raise(s));
@@ -323,6 +338,88 @@ final class Run {
             default:
                 due("ask(" + up + "," + what + "," + k + ")", map.ask(up, what, k), model.ask(up, what, k));
         }
+    }
+}
+
+/**
+ * A tree whose middle is cut and raised till there are 40 versions, and each time much is woven
+ * anew: all that there is to be read of versions, nodes and changes is compared, each object
+ * being asked no more than 512 calls.
+ */
+final class Crowd {
+    private final String text;
+    private final Model model = new Model();
+    private StampMap map;
+    private int calls = 1000;
+
+    Crowd(int slots) {
+        StringBuilder lines = new StringBuilder();
+        for (int i = 1; i <= 8; i++) {
+            lines.append("seg ").append((char) ('s' + i - 1)).append(" at 0 ").append(i).append(" to 60 ").append(i).append(';');
+        }
+        text = lines + "weighs (number<3)*(8-2*number)+(number=3)*9+(number>3)*(2*number-7);slots " + slots + ";";
+        model.tape = text;
+        model.map();
+        model.sweep();
+        for (int i = 1; i < 40; i++) {
+            if (i % 2 == 1) {
+                model.cut(3);
+            } else {
+                model.raise(3);
+            }
+        }
+    }
+
+    private StampMap fresh() {
+        calls++;
+        if (calls > 400) {
+            map = new StampMap();
+            Run.put(map, text);
+            map.map();
+            map.sweep();
+            for (int i = 1; i < 40; i++) {
+                due("act", (i % 2 == 1 ? map.cut(3) : map.raise(3)), 7 + (i + 1) % 2);
+            }
+            calls = 70;
+        }
+        return map;
+    }
+
+    private void due(String call, long got, long want) {
+        ModelTest.due(call + " of a crowd, " + text, got, want);
+    }
+
+    void compare() {
+        for (int node = 0; node <= model.state.nodes.size(); node++) {
+            for (int what = 0; what < 7; what++) {
+                due("node(" + node + "," + what + ")", fresh().node(node, what), model.node(node, what));
+            }
+            for (int change = 0; change < 7; change++) {
+                for (int what = 0; what < 3; what++) {
+                    due("change", fresh().change(node, change, what), model.change(node, change, what));
+                }
+            }
+            for (int stamp = 0; stamp <= 41; stamp += 5) {
+                due("read left", fresh().read(node, 0, stamp), model.read(node, 0, stamp));
+                due("read right", fresh().read(node, 1, stamp), model.read(node, 1, stamp));
+            }
+        }
+        for (int stamp = 0; stamp <= 41; stamp++) {
+            for (int what = 0; what < 5; what++) {
+                due("version", fresh().version(stamp, what), model.version(stamp, what));
+            }
+            due("shared", fresh().shared(stamp, 40), model.shared(stamp, 40));
+        }
+        for (int n = 1; n <= 6; n++) {
+            due("law", fresh().law(n), model.law(n));
+        }
+        due("nodes", fresh().about(4), model.about(4));
+        due("more than 60 nodes with one slot", fresh().about(5) > 1 || fresh().about(4) > 60 ? 1 : 0, 1);
+        due("written", fresh().written(), model.written());
+        due("paid", fresh().paid(), model.paid());
+        due("credit", fresh().credit(), model.credit());
+        due("dearest", fresh().dearest(), model.dearest());
+        due("busiest", fresh().busiest(), model.busiest());
     }
 }
 

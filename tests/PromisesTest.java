@@ -21,6 +21,7 @@ public final class PromisesTest {
         promise5tokens();
         promise5misplaced();
         promise5limits();
+        promise5anew();
         promise5names();
         promise5numbers();
         promise5common();
@@ -291,11 +292,32 @@ public final class PromisesTest {
         faulty("weighs " + times("not ", 7) + "1=(2);", 2, 37);
     }
 
+    private static void promise5anew() {
+        about = "promise 5, nothing is left of a text with a fault";
+        String[] faults = {"weighs ((((((1", "weighs not not not not 1<(2+3 or", "slots 2;draw 5;weighs 1;seg a at 1 1 to 9 9;$"};
+        StampMap x = new StampMap();
+        for (String text : faults) {
+            put(x, text);
+            due("map() of " + text, x.map(), -1);
+            put(x, "weighs ((((((not 1<2))))));slots 4;draw 0;seg a at 5 5 to 6 6;");
+            due("map() behind " + text, x.map(), 1);
+            due("weight(0)", x.weight(0), 0);
+            put(x, "seg b at 5 5 to 6 6;");
+            due("map() with nothing but b", x.map(), 1);
+            due("weight(0)", x.weight(0), 71);
+            due("about(5)", x.about(5), 3);
+            due("about(11)", x.about(11), 0);
+            put(x, "weighs 1);");
+            due("map() of a bracket too many", x.map(), -1);
+        }
+    }
+
     private static void promise5names() {
         about = "promise 5, names";
         faulty("seg a at 0 0 to 1 1;seg a at 70", 3, 24);
         faulty("seg abcdefgh at 0 0 to 1 1;seg b at 0 5 to 1 5;seg abcdefgh;", 3, 51);
         sound("seg abcdefgh at 0 0 to 1 1;seg bbcdefgh at 0 5 to 1 5;", 2, 0);
+        sound("seg azyz at 0 0 to 1 1;seg z at 0 5 to 1 5;", 2, 0);
         sound("seg line at 0 0 to 1 1;seg e at 0 5 to 1 5;seg map at 0 9 to 1 9;", 3, 0);
         StampMap x = told("seg a at 0 0 to 1 1;");
         put(x, "seg a at 0 0 to 1 1;");
@@ -489,6 +511,20 @@ public final class PromisesTest {
         x.undo();
         due("cut(0) as the 40th", x.cut(0), 0);
         due("raise(0) as the 41st", x.raise(0), -1);
+        int[] fortieth = {0, 0, -1, 0, 0};
+        for (int what = 0; what < 5; what++) {
+            due("version(40, " + what + ")", x.version(40, what), fortieth[what]);
+        }
+        due("next() at 40", x.next(), 1);
+        due("segment(0, 5) at 40", x.segment(0, 5), 1);
+        due("segment(1, 5) at 40", x.segment(1, 5), 0);
+        x.undo();
+        x.sweep();
+        due("version(40, 2)", x.version(40, 2), x.segment(1, 6));
+        due("version(40, 4)", x.version(40, 4), 1);
+        due("segment(0, 5) at 40", x.segment(0, 5), 0);
+        x.undo();
+        x.cut(0);
         for (int i = 0; i < 40; i++) {
             due("undo()", x.undo(), true);
         }

@@ -605,7 +605,7 @@ public final class StampMap {
             case 10:
                 return tape.size();
             case 11:
-                return plan.formula.units;
+                return plan.units;
             case 12:
                 return lying.size();
             default:
@@ -1121,11 +1121,6 @@ public final class StampMap {
             steps.add(step);
         }
 
-        void takeFrom(Formula other) {
-            units = other.units;
-            steps.takeFrom(other.steps);
-        }
-
         int valueFor(int number, int across, int width, int rise, int luck) {
             stack.clear();
             for (int i = 0; i < steps.size(); i++) {
@@ -1208,6 +1203,7 @@ public final class StampMap {
         final Row weights;
         final Row eventPlaces;
         final Formula formula;
+        int units;
         int slots;
         int draw;
 
@@ -1237,10 +1233,12 @@ public final class StampMap {
             eventPlaces.clear();
             formula.clear();
             formula.add(Lexer.LUCK);
+            units = 0;
             slots = USUAL_SLOTS;
             draw = 0;
         }
 
+        /** Takes all but what only the reading of a map needs: its formula and its draw. */
         void takeFrom(Plan other) {
             fromAcross.takeFrom(other.fromAcross);
             fromUp.takeFrom(other.fromUp);
@@ -1251,9 +1249,8 @@ public final class StampMap {
             lowerOnes.takeFrom(other.lowerOnes);
             weights.takeFrom(other.weights);
             eventPlaces.takeFrom(other.eventPlaces);
-            formula.takeFrom(other.formula);
+            units = other.units;
             slots = other.slots;
-            draw = other.draw;
         }
 
         int count() {
@@ -1275,6 +1272,7 @@ public final class StampMap {
 
         /** What comes of all lines together: draw, for one, may be told behind weighs. */
         void settle() {
+            units = formula.units;
             weigh();
             for (int k = 0; k < count(); k++) {
                 lowerOnes.add(findLowerOnes(k));
